@@ -508,7 +508,6 @@ public final class TempleRaised {
         }
 
         private void addUpWeights(Wall wall) {
-            Arrays.fill(weightTo, 0);
             for (int row = 0; row < wall.rows; row++) {
                 int ofRow = 0;
                 for (int column = 0; column < wall.columns; column++) {
@@ -639,8 +638,6 @@ public final class TempleRaised {
             piles = 0;
             Arrays.fill(takenOn, NONE);
             Arrays.fill(pileOf, NONE);
-            Arrays.fill(placeOf, NONE);
-            Arrays.fill(uppermost, NONE);
         }
 
         boolean isTaken(int block) {
@@ -790,53 +787,26 @@ public final class TempleRaised {
 
     /** Finds the order in which the blocks that stand are to be taken. */
     private static final class Foreman {
-        private static final int NO_PRESS = 100000;
-        private static final int GONE = -1;
+        private static final int NO_DUE = 100000;
+        private static final int PLACED = Integer.MAX_VALUE;
 
-        // How many cells of standing blocks are right above a block; GONE for one that is taken.
-        private final int[] load = new int[CELLS];
         private final int[] press = new int[CELLS];
 
         int arrange(Site site) {
-            findLoads(site);
             findPress(site);
+            passOverTaken(site);
             site.order.clear();
             int late = 0;
             int standing = site.plan.blocks - site.yard.taken;
             for (int k = 0; k < standing; k++) {
                 int next = mostPressing(site.plan.blocks);
-                if (next == NONE) {
-                    break;
-                }
                 site.order.add(next);
+                press[next] = PLACED;
                 if (!site.isInTime(next, site.day + k)) {
                     late++;
                 }
-                load[next] = GONE;
-                changeLoadBelow(site.plan, next, -1);
             }
             return late;
-        }
-
-        private void findLoads(Site site) {
-            for (int block = 0; block < site.plan.blocks; block++) {
-                load[block] = site.yard.isTaken(block) ? GONE : 0;
-            }
-            for (int block = 0; block < site.plan.blocks; block++) {
-                if (!site.yard.isTaken(block)) {
-                    changeLoadBelow(site.plan, block, 1);
-                }
-            }
-        }
-
-        private void changeLoadBelow(Plan plan, int block, int change) {
-            int rowBelow = plan.low[block] - 1;
-            if (rowBelow < 0) {
-                return;
-            }
-            for (int column = plan.left[block]; column < plan.left[block] + plan.columns[block]; column++) {
-                load[plan.blockAt[place(column, rowBelow)]] += change;
-            }
         }
 
         // Row by row from below, so that the press of what is below is known before it is handed
@@ -845,7 +815,7 @@ public final class TempleRaised {
             Plan plan = site.plan;
             for (int block = 0; block < plan.blocks; block++) {
                 int due = site.dueOf(block);
-                press[block] = due == NONE ? NO_PRESS : due;
+                press[block] = due == NONE ? NO_DUE : due;
             }
             for (int row = 1; row < site.wall.rows; row++) {
                 for (int column = 0; column < site.wall.columns; column++) {
@@ -858,10 +828,20 @@ public final class TempleRaised {
             }
         }
 
+        private void passOverTaken(Site site) {
+            for (int block = 0; block < site.plan.blocks; block++) {
+                if (site.yard.isTaken(block)) {
+                    press[block] = PLACED;
+                }
+            }
+        }
+
+        // Whether a block is free need not be asked: what is above one has less press than it, so
+        // the one with the least press of all has none above it that still stands.
         private int mostPressing(int blocks) {
-            int best = NONE;
-            for (int block = 0; block < blocks; block++) {
-                if (load[block] == 0 && (best == NONE || press[block] < press[best])) {
+            int best = 0;
+            for (int block = 1; block < blocks; block++) {
+                if (press[block] < press[best]) {
                     best = block;
                 }
             }

@@ -153,8 +153,21 @@ public final class PromisesTest {
         due("3: plan", x.plan(), 3);
         due("3: heaviest is alone", x.block(x.at(2, 1), 4), 50);
         due("3: motif 9", x.cell(1, 0, 1, 9), true);
-        x.limit(2);
-        due("3: plan of too heavy cells", x.plan(), NONE);
+        x.wall(2, 2);
+        x.limit(10);
+        x.cell(0, 0, 1, 9);
+        x.cell(1, 0, 1, 9);
+        due("3: a carving of two cells", x.plan(), 3);
+        due("3: it is one block", x.at(0, 0) == x.at(1, 0), true);
+        x.cell(1, 0, 1, 8);
+        x.cell(0, 1, 1, 9);
+        due("3: a carving of two rows", x.plan(), 3);
+        due("3: it is one block", x.at(0, 0) == x.at(0, 1), true);
+        x.cell(0, 1, 10, 9);
+        due("3: it is too heavy", x.plan(), NONE);
+        x.cell(0, 0, 10, 9);
+        x.cell(0, 1, 10, 0);
+        due("3: no motif, no carving", x.plan(), 4);
     }
 
     // Promise 4
@@ -418,6 +431,12 @@ public final class PromisesTest {
         TempleRaised z = column(3);
         due("10: right above", z.above(1, 0), true);
         due("10: not right above", z.above(2, 0), false);
+        TempleRaised corners = new TempleRaised();
+        corners.wall(2, 2);
+        corners.limit(10);
+        corners.plan();
+        due("10: a corner to the right", corners.above(3, 0), false);
+        due("10: a corner to the left", corners.above(1, 2), false);
     }
 
     // Promise 11
@@ -574,6 +593,28 @@ public final class PromisesTest {
         due("14: plan", x.plan(), 3);
         x.order();
         orderIs(x, 2, 0, 1);
+        // What is due goes ahead of what never is, and what is above it with it.
+        x.wall(2, 2);
+        x.motifs(0, 0x50000000);
+        x.motifs(1, 0x50000000);
+        x.cell(0, 0, 50, 5);
+        x.cell(0, 1, 50, 5);
+        x.cell(1, 0, 50, 0);
+        x.cell(1, 1, 50, 0);
+        x.limit(100);
+        x.river(1, 0);
+        due("14: plan", x.plan(), 2);
+        x.order();
+        orderIs(x, 0, 1);
+        x.limit(50);
+        x.motifs(0, 0);
+        x.motifs(1, 0x10000000);
+        x.river(5, 2);
+        x.river(7, 1);
+        due("14: plan", x.plan(), 4);
+        due("14: due", x.block(1, 5), 150);
+        x.order();
+        orderIs(x, 1, 3, 0, 2);
     }
 
     private static void orderIs(TempleRaised x, int... want) {
@@ -696,6 +737,9 @@ public final class PromisesTest {
         due("19: least of several", x.like(-363, 0, 3), -366);
         due("19: all strike", x.like(0, 400, 400), -35);
         due("19: as few as can be", x.like(0, 400, 0), -363);
+        due("19: the last place alone", x.like(365, 0, 38), 400);
+        due("19: the least that has 365 alone", x.like(400, 35, 35), 397);
+        due("19: the new place is open by m on both sides", x.like(1, 4, 8), -2);
         int[][] wrong = {
             {-401, 0, 0}, {401, 0, 0}, {0, -1, 0}, {0, 401, 0}, {0, 0, -1}, {0, 0, 401},
             {Integer.MAX_VALUE, 0, 0}, {0, Integer.MAX_VALUE, 0}, {0, 0, Integer.MIN_VALUE},
@@ -764,14 +808,14 @@ public final class PromisesTest {
         x.take(1);
         x.image(1);
         x.wall(8, 8);
-        x.limit(3000);
         x.saw(8);
         for (int month = 0; month < 12; month++) {
             x.river(month, 9);
         }
         x.cell(0, 0, 50, 5);
         x.motifs(1, 0x11111111);
-        x.plan();
+        x.limit(90);
+        due("22: another plan", x.plan() > 4, true);
         x.order();
         x.days(100);
         due("22: again(1)", x.again(1), true);
@@ -784,6 +828,13 @@ public final class PromisesTest {
         due("22: pile", x.piled(0, 0), 1);
         due("22: taken on", x.block(1, 11), 0);
         due("22: wide", x.block(0, 10), 197);
+        int[] shapes = {11, 111, 1011, 1111};
+        int[] turns = {0, 2, 1, 3};
+        for (int block = 0; block < 4; block++) {
+            due("22: shape", shape(x, block), shapes[block]);
+            due("22: turn", x.block(block, 6), turns[block]);
+            due("22: at", x.at(block / 2, block % 2), block);
+        }
         due("22: take(3)", x.take(3), 1);
         due("22: take(2)", x.take(2), 0);
         x.again(1);
