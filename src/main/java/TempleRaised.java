@@ -248,7 +248,7 @@ public final class TempleRaised {
         if (images[k] == null) {
             images[k] = new Site();
         }
-        images[k].copy(site);
+        images[k].become(site);
         return true;
     }
 
@@ -256,7 +256,7 @@ public final class TempleRaised {
         if (!within(k, 0, IMAGES - 1) || images[k] == null) {
             return false;
         }
-        site.copy(images[k]);
+        site.become(images[k]);
         return true;
     }
 
@@ -329,7 +329,7 @@ public final class TempleRaised {
             return sum;
         }
 
-        void copy(Wall other) {
+        void become(Wall other) {
             columns = other.columns;
             rows = other.rows;
             copyRow(other.weight, weight);
@@ -429,7 +429,7 @@ public final class TempleRaised {
             }
         }
 
-        void copy(Plan other) {
+        void become(Plan other) {
             blocks = other.blocks;
             sawn = other.sawn;
             copyRow(other.left, left);
@@ -615,7 +615,7 @@ public final class TempleRaised {
             return NONE;
         }
 
-        void copy(River other) {
+        void become(River other) {
             copyRow(other.height, height);
         }
     }
@@ -682,7 +682,7 @@ public final class TempleRaised {
             return NONE;
         }
 
-        void copy(Yard other) {
+        void become(Yard other) {
             taken = other.taken;
             piles = other.piles;
             copyRow(other.takenOn, takenOn);
@@ -702,11 +702,13 @@ public final class TempleRaised {
         }
 
         void add(int next) {
-            block[places] = next;
-            places++;
+            if (places < CELLS) {
+                block[places] = next;
+                places++;
+            }
         }
 
-        void copy(Order other) {
+        void become(Order other) {
             places = other.places;
             copyRow(other.block, block);
         }
@@ -773,15 +775,15 @@ public final class TempleRaised {
             return wide;
         }
 
-        void copy(Site other) {
+        void become(Site other) {
             limit = other.limit;
             saw = other.saw;
             day = other.day;
-            wall.copy(other.wall);
-            plan.copy(other.plan);
-            river.copy(other.river);
-            yard.copy(other.yard);
-            order.copy(other.order);
+            wall.become(other.wall);
+            plan.become(other.plan);
+            river.become(other.river);
+            yard.become(other.yard);
+            order.become(other.order);
         }
     }
 

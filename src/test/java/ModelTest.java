@@ -22,6 +22,7 @@ public final class ModelTest {
             new ModelTest(check, seed).run();
         }
         smallWalls(check);
+        fullestWall(check);
         sunOfAllPlaces(check);
         check.end();
     }
@@ -203,6 +204,29 @@ public final class ModelTest {
                     check.due("small wall " + n + ": block(" + block + ", " + what + ")",
                             x.block(block, what), model.block(block, what));
                 }
+            }
+        }
+    }
+
+    /** As many blocks as there can be, taken to the last one: all rows inside are full then. */
+    private static void fullestWall(Check check) {
+        for (int w = 1; w <= 8; w++) {
+            ModelTest test = new ModelTest(check, w);
+            test.due("wall", test.x.wall(w, 8), test.model.wall(w, 8));
+            test.due("limit", test.x.limit(10), test.model.limit(10));
+            test.due("plan", test.x.plan(), test.model.plan());
+            test.due("river", test.x.river(1, w), test.model.river(1, w));
+            for (int k = 0; k < 8 * w; k++) {
+                int block = test.random.nextInt(8 * w);
+                test.due("take", test.x.take(block), test.model.take(block));
+                test.look();
+            }
+            while (test.model.count(3) < 8 * w) {
+                test.due("order", test.x.order(), test.model.order());
+                int next = test.model.ordered(0);
+                test.due("river", test.x.river(1, 0), test.model.river(1, 0));
+                test.due("take", test.x.take(next), test.model.take(next));
+                test.look();
             }
         }
     }

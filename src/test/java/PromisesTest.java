@@ -593,28 +593,17 @@ public final class PromisesTest {
         due("14: plan", x.plan(), 3);
         x.order();
         orderIs(x, 2, 0, 1);
-        // What is due goes ahead of what never is, and what is above it with it.
-        x.wall(2, 2);
-        x.motifs(0, 0x50000000);
-        x.motifs(1, 0x50000000);
-        x.cell(0, 0, 50, 5);
-        x.cell(0, 1, 50, 5);
-        x.cell(1, 0, 50, 0);
-        x.cell(1, 1, 50, 0);
-        x.limit(100);
-        x.river(1, 0);
-        due("14: plan", x.plan(), 2);
-        x.order();
-        orderIs(x, 0, 1);
-        x.limit(50);
-        x.motifs(0, 0);
-        x.motifs(1, 0x10000000);
-        x.river(5, 2);
-        x.river(7, 1);
-        due("14: plan", x.plan(), 4);
-        due("14: due", x.block(1, 5), 150);
-        x.order();
-        orderIs(x, 1, 3, 0, 2);
+        // The right column has a high block below: its top is above one block, the left top above two.
+        x.wall(2, 3);
+        x.cell(1, 0, 5, 1);
+        x.cell(1, 1, 5, 1);
+        x.limit(10);
+        x.river(1, 2);
+        due("14: plan", x.plan(), 5);
+        due("14: row 1 is due", x.block(1, 5), 30);
+        due("14: row 2 is not", x.block(2, 5), NONE);
+        due("14: order", x.order(), 0);
+        orderIs(x, 2, 1, 4, 0, 3);
     }
 
     private static void orderIs(TempleRaised x, int... want) {
@@ -809,14 +798,17 @@ public final class PromisesTest {
         x.image(1);
         x.wall(8, 8);
         x.saw(8);
-        for (int month = 0; month < 12; month++) {
-            x.river(month, 9);
-        }
         x.cell(0, 0, 50, 5);
         x.motifs(1, 0x11111111);
         x.limit(90);
         due("22: another plan", x.plan() > 4, true);
         x.order();
+        for (int k = 0; k < 6; k++) {
+            due("22: taken of another plan", x.take(x.ordered(k)) >= 0, true);
+        }
+        for (int month = 0; month < 12; month++) {
+            x.river(month, 9);
+        }
         x.days(100);
         due("22: again(1)", x.again(1), true);
         counts("22: all", x, 2, 2, 4, 1, 4, 1, 1, 39, 10, 3, 4);
@@ -837,6 +829,7 @@ public final class PromisesTest {
         }
         due("22: take(3)", x.take(3), 1);
         due("22: take(2)", x.take(2), 0);
+        due("22: on the pile", x.piled(0, 1), 2);
         x.again(1);
         due("21: an image is not what goes on", x.count(3), 1);
         due("21: nor its piles", x.piled(1, 0), NONE);
