@@ -4,12 +4,14 @@ import java.util.Random;
 public final class ModelTest {
     private static final int RUNS = 240;
     private static final int CALLS = 150;
+    // So much of a run's calls is left for questions.
+    private static final int MOST_MADE = 400;
 
     private final Check check;
     private final Random random;
-    private final TempleRaised x = new TempleRaised();
+    private final Run run = new Run();
     private final Model model = new Model();
-    private String last = "";
+    private Call last = new Call("");
 
     private ModelTest(Check check, int seed) {
         this.check = check;
@@ -31,9 +33,9 @@ public final class ModelTest {
         // Some runs come to the last day of all.
         int late = random.nextInt(6) == 0 ? 49 : 0;
         for (int k = 0; k < late; k++) {
-            due("days(100)", x.days(100), model.days(100));
+            make(model.days(100), "days", 100);
         }
-        for (int call = 0; call < CALLS; call++) {
+        for (int call = 0; call < CALLS && run.length() < MOST_MADE; call++) {
             change();
             look();
         }
@@ -52,13 +54,23 @@ public final class ModelTest {
         return chance == 1 ? most + 1 : any(least, most);
     }
 
-    private void due(String call, int got, int want) {
-        last = call;
-        check.due(call, got, want);
+    private void make(int want, String name, int... numbers) {
+        last = new Call(name, numbers);
+        check.due(last.toString(), run.make(last), want);
     }
 
-    private void due(String call, boolean got, boolean want) {
-        due(call, got ? 1 : 0, want ? 1 : 0);
+    private void make(boolean want, String name, int... numbers) {
+        make(want ? 1 : 0, name, numbers);
+    }
+
+    private void ask(int want, String name, int... numbers) {
+        Call call = new Call(name, numbers);
+        int got = run.ask(call);
+        check.due(got == want ? "" : "behind " + last + ": " + call, got, want);
+    }
+
+    private void ask(boolean want, String name, int... numbers) {
+        ask(want ? 1 : 0, name, numbers);
     }
 
     private void change() {
@@ -71,26 +83,26 @@ public final class ModelTest {
             newLimit();
         } else if (kind < 14) {
             int saw = about(1, 9);
-            due("saw(" + saw + ")", x.saw(saw), model.saw(saw));
+            make(model.saw(saw), "saw", saw);
         } else if (kind < 24) {
-            due("plan()", x.plan(), model.plan());
+            make(model.plan(), "plan");
         } else if (kind < 30) {
             int month = about(0, 11);
             int height = about(0, 9);
-            due("river(" + month + ", " + height + ")", x.river(month, height), model.river(month, height));
+            make(model.river(month, height), "river", month, height);
         } else if (kind < 35) {
             int n = random.nextBoolean() ? about(1, 100) : any(1, 5);
-            due("days(" + n + ")", x.days(n), model.days(n));
+            make(model.days(n), "days", n);
         } else if (kind < 45) {
-            due("order()", x.order(), model.order());
+            make(model.order(), "order");
         } else if (kind < 88) {
             takeOne();
         } else if (kind < 92) {
             int k = about(0, 2);
-            due("image(" + k + ")", x.image(k), model.image(k));
+            make(model.image(k), "image", k);
         } else if (kind < 95) {
             int k = about(0, 2);
-            due("again(" + k + ")", x.again(k), model.again(k));
+            make(model.again(k), "again", k);
         } else {
             askSun();
         }
@@ -100,7 +112,7 @@ public final class ModelTest {
         int most = random.nextInt(4) == 0 ? 8 : 5;
         int w = about(1, most);
         int h = about(1, most);
-        due("wall(" + w + ", " + h + ")", x.wall(w, h), model.wall(w, h));
+        make(model.wall(w, h), "wall", w, h);
         int cells = any(0, 30);
         for (int k = 0; k < cells; k++) {
             carve();
@@ -109,35 +121,34 @@ public final class ModelTest {
     }
 
     private void carve() {
-        int row = about(0, x.count(1) - 1);
+        int row = about(0, model.count(1) - 1);
         if (random.nextInt(4) == 0) {
             int eight = 0;
             for (int column = 0; column < 8; column++) {
                 int motif = random.nextInt(5) < 3 ? 0 : any(1, random.nextInt(30) == 0 ? 10 : 9);
                 eight = eight << 4 | motif;
             }
-            due("motifs(" + row + ", " + eight + ")", x.motifs(row, eight), model.motifs(row, eight));
+            make(model.motifs(row, eight), "motifs", row, eight);
             return;
         }
-        int column = about(0, x.count(0) - 1);
+        int column = about(0, model.count(0) - 1);
         int weight = random.nextBoolean() ? about(1, 50) : any(8, 12);
         int motif = random.nextInt(3) == 0 ? any(1, 2) : random.nextInt(10) == 0 ? about(0, 9) : 0;
-        due("cell(" + column + ", " + row + ", " + weight + ", " + motif + ")",
-                x.cell(column, row, weight, motif), model.cell(column, row, weight, motif));
+        make(model.cell(column, row, weight, motif), "cell", column, row, weight, motif);
     }
 
     private void newLimit() {
-        int limit = random.nextInt(8) == 0 ? about(1, 3200) : any(10, Math.max(10, x.count(7)));
-        due("limit(" + limit + ")", x.limit(limit), model.limit(limit));
+        int limit = random.nextInt(8) == 0 ? about(1, 3200) : any(10, Math.max(10, model.count(7)));
+        make(model.limit(limit), "limit", limit);
     }
 
     private void takeOne() {
-        int block = about(0, Math.max(0, x.count(2) - 1));
+        int block = about(0, Math.max(0, model.count(2) - 1));
         // Now and then what the order says, so that runs get to the lowest blocks.
-        if (x.count(10) > 0 && random.nextBoolean()) {
-            block = x.ordered(Math.min(x.count(3), x.count(10) - 1));
+        if (model.count(10) > 0 && random.nextBoolean()) {
+            block = model.ordered(Math.min(model.count(3), model.count(10) - 1));
         }
-        due("take(" + block + ")", x.take(block), model.take(block));
+        make(model.take(block), "take", block);
     }
 
     private void askSun() {
@@ -145,33 +156,32 @@ public final class ModelTest {
         int g = about(-400, 400);
         int n = random.nextBoolean() ? about(0, 400) : any(0, 30);
         int m = random.nextBoolean() ? about(0, 400) : any(0, 30);
-        due("sun(" + day + ")", x.sun(day), model.sun(day));
-        due("strikes(" + g + ", " + n + ")", x.strikes(g, n), model.strikes(g, n));
+        ask(model.sun(day), "sun", day);
+        ask(model.strikes(g, n), "strikes", g, n);
         if (random.nextInt(8) == 0) {
-            due("like(" + g + ", " + n + ", " + m + ")", x.like(g, n, m), model.like(g, n, m));
+            ask(model.like(g, n, m), "like", g, n, m);
         }
     }
 
     private void look() {
-        String when = "behind " + last + ": ";
         for (int what = -1; what <= 11; what++) {
-            check.due(when + "count(" + what + ")", x.count(what), model.count(what));
+            ask(model.count(what), "count", what);
         }
         int block = any(-1, model.count(2));
         for (int what = -1; what <= 12; what++) {
-            check.due(when + "block(" + block + ", " + what + ")", x.block(block, what), model.block(block, what));
+            ask(model.block(block, what), "block", block, what);
         }
         for (int other = -1; other <= model.count(2); other++) {
-            check.due(when + "above(" + other + ", " + block + ")", x.above(other, block), model.above(other, block));
-            check.due(when + "ordered(" + other + ")", x.ordered(other), model.ordered(other));
+            ask(model.above(other, block), "above", other, block);
+            ask(model.ordered(other), "ordered", other);
         }
         int column = any(-1, model.count(0));
         for (int row = -1; row <= model.count(1); row++) {
-            check.due(when + "at(" + column + ", " + row + ")", x.at(column, row), model.at(column, row));
+            ask(model.at(column, row), "at", column, row);
         }
         int pile = any(-1, model.count(5));
         for (int k = -1; k <= model.count(3); k++) {
-            check.due(when + "piled(" + pile + ", " + k + ")", x.piled(pile, k), model.piled(pile, k));
+            ask(model.piled(pile, k), "piled", pile, k);
         }
     }
 
@@ -212,29 +222,29 @@ public final class ModelTest {
     private static void fullestWall(Check check) {
         for (int w = 1; w <= 8; w++) {
             ModelTest test = new ModelTest(check, w);
-            test.due("wall", test.x.wall(w, 8), test.model.wall(w, 8));
-            test.due("limit", test.x.limit(10), test.model.limit(10));
-            test.due("plan", test.x.plan(), test.model.plan());
-            test.due("river", test.x.river(1, w), test.model.river(1, w));
+            test.make(test.model.wall(w, 8), "wall", w, 8);
+            test.make(test.model.limit(10), "limit", 10);
+            test.make(test.model.plan(), "plan");
+            test.make(test.model.river(1, w), "river", 1, w);
             for (int k = 0; k < 8 * w; k++) {
                 int block = test.random.nextInt(8 * w);
-                test.due("take", test.x.take(block), test.model.take(block));
+                test.make(test.model.take(block), "take", block);
                 test.look();
             }
+            test.make(test.model.river(1, 0), "river", 1, 0);
             while (test.model.count(3) < 8 * w) {
-                test.due("order", test.x.order(), test.model.order());
+                test.make(test.model.order(), "order");
                 int next = test.model.ordered(0);
-                test.due("river", test.x.river(1, 0), test.model.river(1, 0));
-                test.due("take", test.x.take(next), test.model.take(next));
+                test.make(test.model.take(next), "take", next);
                 test.look();
             }
         }
     }
 
     private static void sunOfAllPlaces(Check check) {
-        TempleRaised x = new TempleRaised();
         Model model = new Model();
         for (int g = -401; g <= 401; g++) {
+            TempleRaised x = new TempleRaised();
             for (int n = -1; n <= 401; n += n < 40 ? 1 : 19) {
                 check.due("strikes(" + g + ", " + n + ")", x.strikes(g, n), model.strikes(g, n));
             }

@@ -33,7 +33,8 @@ public final class RoomTest {
     }
 
     private static void dearestCalls(TempleRaised x) {
-        for (int call = 0; call < CALLS / 8; call++) {
+        // One round less than there is room for, as made() has called too.
+        for (int call = 0; call < CALLS / 8 - 1; call++) {
             x.plan();
             x.order();
             x.image(call % 3);
