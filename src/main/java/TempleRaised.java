@@ -790,7 +790,8 @@ public final class TempleRaised {
     /** Finds the order in which the blocks that stand are to be taken. */
     private static final class Foreman {
         private static final int NO_DUE = 100000;
-        private static final int PLACED = Integer.MAX_VALUE;
+        // More than any press, so that what is taken or has its place is never the most pressing.
+        private static final int PLACED = NO_DUE + 1;
 
         private final int[] press = new int[CELLS];
 

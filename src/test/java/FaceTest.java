@@ -24,6 +24,8 @@ public final class FaceTest {
         "\\bthrows?\\b", "\\btry\\b", "\\bcatch\\b", "\\bsynchronized\\b", "\\bassert\\b", "->", "::", "Exact\\b",
         "\\bpackage\\b", "\\bprotected\\b", "\\bstatic\\s*\\{", "\\bSystem\\.(?!arraycopy\\b)", "\\bThread\\b",
         "\\bRandom\\b", "\\bjava\\.(?!util\\.Arrays;)", "\\bObject\\b", "\\bdouble\\b", "\\bfloat\\b", "while\\s*\\(\\s*true",
+        // Of these the functions alone are in the library's list, no constants.
+        "\\b(Integer|Long|Math)\\.(?![a-z]\\w*\\()",
     };
 
     public static void main(String[] args) throws IOException {

@@ -1,7 +1,7 @@
 import com.sun.management.ThreadMXBean;
 import java.lang.management.ManagementFactory;
 
-/** What a run makes is kept small: an object's rows are made with it, and no call makes more. */
+/** What a run makes is kept small: an object's rows are made with it and with its images; other calls make none. */
 public final class RoomTest {
     private static final int CALLS = 512;
     private static final long MOST_OF_AN_OBJECT = 32_000;
